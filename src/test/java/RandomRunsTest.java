@@ -1,0 +1,241 @@
+import java.util.Arrays;
+import java.util.Random;
+
+/** Runs of calls by a fixed seed, put to the class and to the plain court: every answer must be the same. */
+public final class RandomRunsTest {
+    private static final String[] NAMES = {"type", "wipe", "undo", "fault", "leaf", "rule", "crack", "deed", "back", "set",
+        "lies", "reading", "day", "broken", "free", "clash", "pour", "strain", "strike", "place", "sides", "read", "forget",
+        "take", "fits", "sinks", "mornings", "sheet", "lose", "lay", "get", "copy", "write", "count", "digest"};
+    /** How far each argument of a call goes: 0 on, below this. */
+    private static final int[][] ENDS = {{2, 256}, {2}, {2}, {2}, {12, 3}, {10, 5}, {6, 6}, {28, 8}, {2}, {2, 4},
+        {4, 12, 2}, {4, 3}, {28}, {2}, {8}, {4}, {256}, {4, 256, 256, 2}, {4, 256, 2}, {4, 8}, {8, 2}, {4, 256}, {},
+        {4}, {3}, {17, 4, 8, 2}, {1 << 30, 100, 8}, {4, 3, 61}, {4}, {4, 3, 60, 400}, {4, 3, 60}, {4, 60, 4, 60, 30}, {4}, {9},
+        {}};
+    private static final int TYPE = 0, WIPE = 1, UNDO = 2, READING = 11, STRAIN = 17, STRIKE = 18, READ = 21;
+    private static final int FORGET = 22, SHEET = 27, LOSE = 28, LAY = 29, DIGEST = 34;
+
+    private final Check check = new Check("RandomRunsTest");
+    private final Random random;
+    private TeaLaws court;
+    private PlainCourt plain;
+    private int calls;
+
+    private RandomRunsTest(long seed) {
+        random = new Random(seed);
+    }
+
+    public static void main(String[] args) {
+        int runs = args.length > 0 ? Integer.parseInt(args[0]) : 600;
+        long seed = args.length > 1 ? Long.parseLong(args[1]) : 20261118L;
+        RandomRunsTest test = new RandomRunsTest(seed);
+        for (int run = 0; run < runs && !test.check.failed(); run++) {
+            test.run(run);
+        }
+        test.check.end();
+    }
+
+    private void run(int run) {
+        court = new TeaLaws();
+        plain = new PlainCourt();
+        calls = 0;
+        int many = run % 40 == 0 ? 12 : random.nextInt(8);
+        retype(0, leaves(many, 1 + random.nextInt(6)));
+        retype(1, rules(run % 20 == 0 ? 10 : random.nextInt(11), 1 + random.nextInt(8)));
+        int asked = 150 + random.nextInt(60);
+        while (calls < 106 + asked && !check.failed()) {
+            step();
+        }
+        ask(DIGEST);
+    }
+
+    private void step() {
+        int luck = random.nextInt(100);
+        if (luck < 2) {
+            retype(0, leaves(random.nextInt(7), 1 + random.nextInt(6)));
+        } else if (luck < 4) {
+            retype(1, rules(random.nextInt(8), 1 + random.nextInt(8)));
+        } else if (luck < 12) {
+            rememberReading();
+        } else if (luck < 18) {
+            strainForReading();
+        } else {
+            askAtRandom();
+        }
+    }
+
+    private void askAtRandom() {
+        int op = random.nextInt(NAMES.length);
+        boolean spoils = op == TYPE || op == WIPE || op == UNDO || op == LOSE || op == FORGET || op == DIGEST;
+        if (spoils && random.nextInt(10) != 0) {
+            return;
+        }
+        int[] a = new int[ENDS[op].length];
+        for (int i = 0; i < a.length; i++) {
+            a[i] = argument(ENDS[op][i]);
+        }
+        if (op == SHEET && random.nextInt(2) == 0) {
+            a[1] = 2;
+            a[2] = random.nextInt(20);
+        }
+        if (op == LAY && random.nextInt(2) == 0) {
+            a[2] = random.nextInt(12);
+            a[3] = random.nextInt(4);
+        }
+        if (op == STRAIN && random.nextInt(4) != 0) {
+            a[2] &= ~a[1];
+        }
+        ask(op, a);
+    }
+
+    private int argument(int end) {
+        int luck = random.nextInt(60);
+        switch (luck) {
+            case 0:
+                return -1;
+            case 1:
+                return end;
+            case 2:
+                return random.nextInt();
+            case 3:
+                return random.nextBoolean() ? Integer.MAX_VALUE : Integer.MIN_VALUE;
+            case 4:
+                return end - 1;
+            default:
+                return end <= 256 && end > 28 && luck % 2 == 0 ? random.nextInt(Math.min(end, 9)) : random.nextInt(end);
+        }
+    }
+
+    /** READ that may well come out: the READING itself, or one LAW beside it. */
+    private void rememberReading() {
+        int turns = random.nextInt(4);
+        int laws = (int) ask(READING, turns, 2);
+        ask(READ, turns, random.nextInt(3) == 0 ? laws ^ 1 << random.nextInt(8) : laws);
+        if (random.nextInt(5) == 0) {
+            ask(FORGET);
+        }
+    }
+
+    private void strainForReading() {
+        int turns = random.nextInt(4);
+        int laws = (int) ask(READING, turns, 2);
+        int other = (int) ask(READING, random.nextInt(4), 2);
+        ask(STRAIN, turns, other, laws & ~other, random.nextInt(2));
+        ask(STRIKE, turns, laws & random.nextInt(256), random.nextInt(2));
+    }
+
+    private void retype(int text, String signs) {
+        if (calls + signs.length() > 440) {
+            return;
+        }
+        ask(WIPE, text);
+        for (char sign : signs.toCharArray()) {
+            ask(TYPE, text, sign);
+        }
+    }
+
+    private String leaves(int many, int side) {
+        StringBuilder text = new StringBuilder();
+        for (int i = 0; i < many; i++) {
+            text.append(i == 0 ? "" : ";").append((char) ('a' + random.nextInt(side)));
+            text.append((char) ('1' + random.nextInt(side))).append("sdr".charAt(random.nextInt(3)));
+        }
+        return text.toString();
+    }
+
+    private String rules(int many, int laws) {
+        StringBuilder text = new StringBuilder();
+        for (int i = 0; i < many; i++) {
+            text.append(i == 0 ? "" : ";").append("sdr".charAt(random.nextInt(3))).append("nofb".charAt(random.nextInt(4)));
+            text.append("sdr".charAt(random.nextInt(3))).append(random.nextInt(3) == 0 ? '-' : '+');
+            text.append((char) ('A' + random.nextInt(laws)));
+        }
+        return text.toString();
+    }
+
+    private long ask(int op, int... a) {
+        calls++;
+        long got = answer(court, op, a);
+        check.due(NAMES[op] + Arrays.toString(a), got, answer(plain, op, a));
+        return got;
+    }
+
+    private static long answer(TeaLaws x, int op, int[] a) {
+        switch (NAMES[op]) {
+            case "type": return x.type(a[0], a[1]);
+            case "wipe": return x.wipe(a[0]);
+            case "undo": return x.undo(a[0]);
+            case "fault": return x.fault(a[0]);
+            case "leaf": return x.leaf(a[0], a[1]);
+            case "rule": return x.rule(a[0], a[1]);
+            case "crack": return x.crack(a[0], a[1]);
+            case "deed": return x.deed(a[0], a[1]);
+            case "back": return x.back(a[0]);
+            case "set": return x.set(a[0], a[1]);
+            case "lies": return x.lies(a[0], a[1], a[2]);
+            case "reading": return x.reading(a[0], a[1]);
+            case "day": return x.day(a[0]);
+            case "broken": return x.broken(a[0]);
+            case "free": return x.free(a[0]);
+            case "clash": return x.clash(a[0]);
+            case "pour": return x.pour(a[0]);
+            case "strain": return x.strain(a[0], a[1], a[2], a[3]);
+            case "strike": return x.strike(a[0], a[1], a[2]);
+            case "place": return x.place(a[0], a[1]);
+            case "sides": return x.sides(a[0], a[1]);
+            case "read": return x.read(a[0], a[1]);
+            case "forget": return x.forget();
+            case "take": return x.take(a[0]);
+            case "fits": return x.fits(a[0]);
+            case "sinks": return x.sinks(a[0], a[1], a[2], a[3]);
+            case "mornings": return x.mornings(a[0], a[1], a[2]);
+            case "sheet": return x.sheet(a[0], a[1], a[2]);
+            case "lose": return x.lose(a[0]);
+            case "lay": return x.lay(a[0], a[1], a[2], a[3]);
+            case "get": return x.get(a[0], a[1], a[2]);
+            case "copy": return x.copy(a[0], a[1], a[2], a[3], a[4]);
+            case "write": return x.write(a[0]);
+            case "count": return x.count(a[0]);
+            default: return x.digest();
+        }
+    }
+
+    private static long answer(PlainCourt x, int op, int[] a) {
+        switch (NAMES[op]) {
+            case "type": return x.type(a[0], a[1]);
+            case "wipe": return x.wipe(a[0]);
+            case "undo": return x.undo(a[0]);
+            case "fault": return x.fault(a[0]);
+            case "leaf": return x.leaf(a[0], a[1]);
+            case "rule": return x.rule(a[0], a[1]);
+            case "crack": return x.crack(a[0], a[1]);
+            case "deed": return x.deed(a[0], a[1]);
+            case "back": return x.back(a[0]);
+            case "set": return x.set(a[0], a[1]);
+            case "lies": return x.lies(a[0], a[1], a[2]);
+            case "reading": return x.reading(a[0], a[1]);
+            case "day": return x.day(a[0]);
+            case "broken": return x.broken(a[0]);
+            case "free": return x.free(a[0]);
+            case "clash": return x.clash(a[0]);
+            case "pour": return x.pour(a[0]);
+            case "strain": return x.strain(a[0], a[1], a[2], a[3]);
+            case "strike": return x.strike(a[0], a[1], a[2]);
+            case "place": return x.place(a[0], a[1]);
+            case "sides": return x.sides(a[0], a[1]);
+            case "read": return x.read(a[0], a[1]);
+            case "forget": return x.forget();
+            case "take": return x.take(a[0]);
+            case "fits": return x.fits(a[0]);
+            case "sinks": return x.sinks(a[0], a[1], a[2], a[3]);
+            case "mornings": return x.mornings(a[0], a[1], a[2]);
+            case "sheet": return x.sheet(a[0], a[1], a[2]);
+            case "lose": return x.lose(a[0]);
+            case "lay": return x.lay(a[0], a[1], a[2], a[3]);
+            case "get": return x.get(a[0], a[1], a[2]);
+            case "copy": return x.copy(a[0], a[1], a[2], a[3], a[4]);
+            case "write": return x.write(a[0]);
+            case "count": return x.count(a[0]);
+            default: return x.digest();
+        }
+    }
+}
