@@ -6,6 +6,8 @@ public final class TeaLaws {
     public static final int NONE = -1, BAD = -2, NOT = -3, FULL = -4;
 
     private static final int NULL = 1, INDEX = 2, CAST = 3, STORE = 4, SIZE = 5;
+    private static final int LEAST_INT = 1 << 31;
+    private static final long LEAST_LONG = 1L << 63;
 
     private static final int SIDE = 6, QUARTERS = 4, DAYS = 28, LAWS = 8, ALL_LAWS = 255, SHAPES = 3, HOWS = 4;
     private static final int MOST_LEAVES = 12, MOST_RULES = 10, MOST_CRACKS = 8, MOST_DEEDS = 12, MOST_READ = 8;
@@ -255,7 +257,7 @@ public final class TeaLaws {
 
     public long sinks(int c, int turns, int law, int what) {
         if (!below(c, SIXTEENTHS + 1) || !below(turns, QUARTERS) || !below(law, LAWS) || !below(what, 2)) {
-            return Long.MIN_VALUE - BAD;
+            return LEAST_LONG - BAD;
         }
         long above = cup.settled().chanceAbove(c, turns, law);
         int belowBits = 4 * leaves.things;
@@ -314,12 +316,12 @@ public final class TeaLaws {
 
     public int get(int s, int form, int i) {
         if (!below(s, SHEETS) || !below(form, FORMS)) {
-            return Integer.MIN_VALUE;
+            return LEAST_INT;
         }
         int finding = itemFinding(sheets[s], form, i);
         if (finding != 0) {
             find(finding);
-            return Integer.MIN_VALUE;
+            return LEAST_INT;
         }
         return sheets[s].items[i];
     }

@@ -79,6 +79,15 @@ public final class LeavesRulesTest {
         CHECK.due("wipe(0)", x.wipe(0), 3);
         CHECK.due("wipe(0)", x.wipe(0), 0);
         CHECK.due("wipe left the other text", x.count(3), 4);
+        x.type(1, 'A');
+        Courts.typeAll(x, 0, "a1s;a2s");
+        CHECK.due("reading", x.reading(0, 2), 1);
+        x.wipe(1);
+        CHECK.due("reading after wipe(1)", x.reading(0, 2), 0);
+        CHECK.due("counting", x.reading(0, 0), 3);
+        x.wipe(0);
+        CHECK.due("counting after wipe(0)", x.reading(0, 0), 0);
+        Courts.typeAll(x, 1, "sns+");
         CHECK.due("undo(0) of an empty text", x.undo(0), TeaLaws.NOT);
         CHECK.due("wipe(1)", x.wipe(1), 4);
         CHECK.due("undo(1) of an empty text", x.undo(1), TeaLaws.NOT);

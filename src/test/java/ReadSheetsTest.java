@@ -109,6 +109,15 @@ public final class ReadSheetsTest {
         x.read(1, 2);
         CHECK.due("by a CRACK: MISSING", x.fits(0), 1);
         CHECK.due("by a CRACK: PLACED", x.fits(1), 3);
+        x = Courts.of("a1s;a2s;c3d;f6d;a3s", "sns+A;dbd+B;dbd+B");
+        x.read(0, 1);
+        CHECK.due("two more RULES of one LAW: MISSING", x.fits(0), 0);
+        CHECK.due("two more RULES of one LAW: TURNED", x.fits(2), 4);
+        CHECK.due("either of two dots: PLACED", x.fits(1), 12);
+        x.forget();
+        x.read(0, 2);
+        CHECK.due("no one of three stalks but that between: PLACED", x.fits(1), 2);
+        CHECK.due("the RULE of stalks: MISSING", x.fits(0), 1);
         for (int bad : BAD_THREE) {
             CHECK.due("fits(bad)", x.fits(bad), TeaLaws.BAD);
         }
@@ -402,6 +411,8 @@ public final class ReadSheetsTest {
         x.read(0, 2);
         CHECK.due("digest", x.digest(), digestByCalls(x));
         CHECK.due("digest again", x.digest(), digestByCalls(x));
+        TeaLaws y = Courts.of("a1s;a2s;f6d", "sbs+A;sos+B;sfd+C;dbs-C");
+        CHECK.due("digest with LAWS that hold, and that turn", y.digest(), digestByCalls(y));
         long before = x.digest();
         x.sheet(1, 1, 1);
         x.lose(2);

@@ -68,6 +68,7 @@ public final class ReadingsPlansTest {
         applies("c3s;c4d", "dos+A", false);
         applies("c4d;c3s", "sod+A", true);
         applies("c3s;c3d", "sod+A", false);
+        applies("c3s;c3d", "dos+A", false);
         applies("c3s;d4d", "sod+A", false);
         applies("c3s;c2s", "sos+A", true);
         applies("a1s;d1d", "sfd+A", true);
@@ -171,6 +172,10 @@ public final class ReadingsPlansTest {
         CHECK.due("the first by DAYS, then as told", x.broken(1), 3);
         x.deed(4, 0);
         CHECK.due("a later one on an earlier DAY", x.broken(1), 6);
+        TeaLaws single = upAndDown();
+        single.deed(4, 0);
+        single.deed(8, 0);
+        CHECK.due("the first one told", single.broken(1), 0);
         x.set(0, 2);
         CHECK.due("turned by FIRST", x.broken(0), 2);
         CHECK.due("turned by FIRST", x.broken(1), 1);
@@ -195,6 +200,8 @@ public final class ReadingsPlansTest {
     private static void clash() {
         TeaLaws x = Courts.of("a1s;a2s", "sbs+A;sbs+A;sbs-B;sfs-A;sbs-A;sbs+B");
         CHECK.due("the first that clashes", x.clash(0), 4);
+        Courts.retype(x, 1, "sbs+A;sbs-A");
+        CHECK.due("the second one", x.clash(0), 1);
         Courts.retype(x, 1, "sbs+A;sbs-B");
         CHECK.due("other LAWS do not clash", x.clash(0), TeaLaws.NONE);
         Courts.retype(x, 1, "sfs+A;sbs-A");
@@ -247,6 +254,8 @@ public final class ReadingsPlansTest {
         strained(x, 0, 2, 8);
         strained(x, 0, 3, 11);
         strained(x, 0, 252, 0);
+        strained(new TeaLaws(), 0, 255, 0);
+        strained(new TeaLaws(), 1, 0, TeaLaws.NONE);
         Courts.retype(x, 0, "c1d;a1s;c2d;a2s");
         strained(x, 0, 3, 3);
         Courts.retype(x, 0, "a1s;a2s;f6s;a6s");
@@ -286,6 +295,8 @@ public final class ReadingsPlansTest {
         struck(x, 5, TeaLaws.NONE);
         Courts.retype(x, 1, "sbs+A;sbs+A;sbs+B");
         struck(x, 0, 7);
+        struck(new TeaLaws(), 0, 0);
+        struck(new TeaLaws(), 1, TeaLaws.NONE);
         struck(x, 1, 4);
         struck(x, 2, 3);
         struck(x, 3, 0);
