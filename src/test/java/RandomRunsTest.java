@@ -159,83 +159,17 @@ public final class RandomRunsTest {
         return got;
     }
 
-    private static long answer(TeaLaws x, int op, int[] a) {
-        switch (NAMES[op]) {
-            case "type": return x.type(a[0], a[1]);
-            case "wipe": return x.wipe(a[0]);
-            case "undo": return x.undo(a[0]);
-            case "fault": return x.fault(a[0]);
-            case "leaf": return x.leaf(a[0], a[1]);
-            case "rule": return x.rule(a[0], a[1]);
-            case "crack": return x.crack(a[0], a[1]);
-            case "deed": return x.deed(a[0], a[1]);
-            case "back": return x.back(a[0]);
-            case "set": return x.set(a[0], a[1]);
-            case "lies": return x.lies(a[0], a[1], a[2]);
-            case "reading": return x.reading(a[0], a[1]);
-            case "day": return x.day(a[0]);
-            case "broken": return x.broken(a[0]);
-            case "free": return x.free(a[0]);
-            case "clash": return x.clash(a[0]);
-            case "pour": return x.pour(a[0]);
-            case "strain": return x.strain(a[0], a[1], a[2], a[3]);
-            case "strike": return x.strike(a[0], a[1], a[2]);
-            case "place": return x.place(a[0], a[1]);
-            case "sides": return x.sides(a[0], a[1]);
-            case "read": return x.read(a[0], a[1]);
-            case "forget": return x.forget();
-            case "take": return x.take(a[0]);
-            case "fits": return x.fits(a[0]);
-            case "sinks": return x.sinks(a[0], a[1], a[2], a[3]);
-            case "mornings": return x.mornings(a[0], a[1], a[2]);
-            case "sheet": return x.sheet(a[0], a[1], a[2]);
-            case "lose": return x.lose(a[0]);
-            case "lay": return x.lay(a[0], a[1], a[2], a[3]);
-            case "get": return x.get(a[0], a[1], a[2]);
-            case "copy": return x.copy(a[0], a[1], a[2], a[3], a[4]);
-            case "write": return x.write(a[0]);
-            case "count": return x.count(a[0]);
-            default: return x.digest();
+    private static long answer(Object x, int op, int[] a) {
+        Class<?>[] types = new Class<?>[a.length];
+        Object[] values = new Object[a.length];
+        for (int i = 0; i < a.length; i++) {
+            types[i] = int.class;
+            values[i] = a[i];
         }
-    }
-
-    private static long answer(PlainCourt x, int op, int[] a) {
-        switch (NAMES[op]) {
-            case "type": return x.type(a[0], a[1]);
-            case "wipe": return x.wipe(a[0]);
-            case "undo": return x.undo(a[0]);
-            case "fault": return x.fault(a[0]);
-            case "leaf": return x.leaf(a[0], a[1]);
-            case "rule": return x.rule(a[0], a[1]);
-            case "crack": return x.crack(a[0], a[1]);
-            case "deed": return x.deed(a[0], a[1]);
-            case "back": return x.back(a[0]);
-            case "set": return x.set(a[0], a[1]);
-            case "lies": return x.lies(a[0], a[1], a[2]);
-            case "reading": return x.reading(a[0], a[1]);
-            case "day": return x.day(a[0]);
-            case "broken": return x.broken(a[0]);
-            case "free": return x.free(a[0]);
-            case "clash": return x.clash(a[0]);
-            case "pour": return x.pour(a[0]);
-            case "strain": return x.strain(a[0], a[1], a[2], a[3]);
-            case "strike": return x.strike(a[0], a[1], a[2]);
-            case "place": return x.place(a[0], a[1]);
-            case "sides": return x.sides(a[0], a[1]);
-            case "read": return x.read(a[0], a[1]);
-            case "forget": return x.forget();
-            case "take": return x.take(a[0]);
-            case "fits": return x.fits(a[0]);
-            case "sinks": return x.sinks(a[0], a[1], a[2], a[3]);
-            case "mornings": return x.mornings(a[0], a[1], a[2]);
-            case "sheet": return x.sheet(a[0], a[1], a[2]);
-            case "lose": return x.lose(a[0]);
-            case "lay": return x.lay(a[0], a[1], a[2], a[3]);
-            case "get": return x.get(a[0], a[1], a[2]);
-            case "copy": return x.copy(a[0], a[1], a[2], a[3], a[4]);
-            case "write": return x.write(a[0]);
-            case "count": return x.count(a[0]);
-            default: return x.digest();
+        try {
+            return ((Number) x.getClass().getDeclaredMethod(NAMES[op], types).invoke(x, values)).longValue();
+        } catch (ReflectiveOperationException e) {
+            throw new IllegalStateException(NAMES[op] + Arrays.toString(a), e);
         }
     }
 }

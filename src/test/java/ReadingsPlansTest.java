@@ -268,6 +268,8 @@ public final class ReadingsPlansTest {
         // f6 does not count already, so it is not strained out.
         strained(x, 1, 2, 8);
         CHECK.due("turned by two a1 lies on the crack", x.strain(2, 1, 2, 1), TeaLaws.NONE);
+        TeaLaws most = Courts.of("a1s;a1s;a1s;a1s;a1s;a1s;a1s;a1s;a1s;a1s;a1s;a1s", "sbs+A");
+        strained(most, 0, 1, 2047);
         for (int i = 0; i < 4; i++) {
             CHECK.due("strain(bad, ..)", x.strain(BAD_TURNS[i], 1, 2, 0), TeaLaws.BAD);
             CHECK.due("strain(0, bad, ..)", x.strain(0, BAD_BITS[i], 0, 0), TeaLaws.BAD);
@@ -303,6 +305,9 @@ public final class ReadingsPlansTest {
         Courts.retype(x, 1, "sbs-A;sos+A;sbs+B");
         CHECK.due("turned by one the same LAWS need another", x.strike(1, 2, 1), 0);
         CHECK.due("turned by none", x.strike(0, 2, 1), 2);
+        Courts.retype(x, 1, "sbs+A;sbs+A;sbs+B;sbs+C;sbs+D;sbs+E;sbs+F;sbs+G;sbs+H;sbs+H");
+        struck(x, 0, 1023);
+        struck(x, 255, 0);
         for (int i = 0; i < 4; i++) {
             CHECK.due("strike(bad, ..)", x.strike(BAD_TURNS[i], 1, 0), TeaLaws.BAD);
             CHECK.due("strike(0, bad, ..)", x.strike(0, BAD_BITS[i], 0), TeaLaws.BAD);
