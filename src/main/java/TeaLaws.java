@@ -17,6 +17,15 @@ public final class TeaLaws {
     private static final int FIRST_SHAPE = 0, HOW = 1, SECOND_SHAPE = 2, PLUS = 3, LAW = 4, RULE_PARTS = 5;
     private static final int NEAR = 0, OVER = 1, FAR = 2, WHATEVER = 3;
 
+    /** What may stand at a place of a LEAF or RULE: where a sign stands here is the number that it tells. */
+    private static final char[] COLUMN_SIGNS = {'a', 'b', 'c', 'd', 'e', 'f'};
+    private static final char[] ROW_SIGNS = {'1', '2', '3', '4', '5', '6'};
+    private static final char[] SHAPE_SIGNS = {'s', 'd', 'r'};
+    private static final char[] HOW_SIGNS = {'n', 'o', 'f', 'b'};
+    private static final char[] PLUS_SIGNS = {'-', '+'};
+    private static final char[] LAW_SIGNS = {'A', 'B', 'C', 'D', 'E', 'F', 'G', 'H'};
+    private static final char[] SEPARATORS = {';'};
+
     private final Text leaves = new Text(true, LEAF_PARTS, MOST_LEAVES);
     private final Text rules = new Text(false, RULE_PARTS, MOST_RULES);
     private final Pairs cracks = new Pairs(MOST_CRACKS);
@@ -573,7 +582,7 @@ public final class TeaLaws {
             int thing = 0;
             int place = 0;
             for (int i = 0; i < length; i++) {
-                int value = place == width ? separator(bytes[i]) : signs(place).indexOf((char) bytes[i]);
+                int value = placeOf(bytes[i], signs(place));
                 if (value < 0) {
                     faultAt = i;
                     return;
@@ -593,24 +602,43 @@ public final class TeaLaws {
             }
         }
 
-        private static int separator(int b) {
-            return b == ';' ? 0 : NONE;
+        private static int placeOf(int b, char[] signs) {
+            for (int i = 0; i < signs.length; i++) {
+                if (signs[i] == b) {
+                    return i;
+                }
+            }
+            return NONE;
         }
 
-        /** What may stand at a place of a thing; where a sign stands in it is the number that it tells. */
-        private String signs(int place) {
-            if (ofLeaves) {
-                return place == COLUMN ? "abcdef" : place == ROW ? "123456" : "sdr";
+        private char[] signs(int place) {
+            if (place == width) {
+                return SEPARATORS;
             }
+            return ofLeaves ? signsOfLeaf(place) : signsOfRule(place);
+        }
+
+        private static char[] signsOfLeaf(int place) {
+            switch (place) {
+                case COLUMN:
+                    return COLUMN_SIGNS;
+                case ROW:
+                    return ROW_SIGNS;
+                default:
+                    return SHAPE_SIGNS;
+            }
+        }
+
+        private static char[] signsOfRule(int place) {
             switch (place) {
                 case HOW:
-                    return "nofb";
+                    return HOW_SIGNS;
                 case PLUS:
-                    return "-+";
+                    return PLUS_SIGNS;
                 case LAW:
-                    return "ABCDEFGH";
+                    return LAW_SIGNS;
                 default:
-                    return "sdr";
+                    return SHAPE_SIGNS;
             }
         }
     }

@@ -1,16 +1,7 @@
-import java.util.Arrays;
 import java.util.Random;
 
 /** Runs of calls by a fixed seed, put to the class and to the plain court: every answer must be the same. */
 public final class RandomRunsTest {
-    private static final String[] NAMES = {"type", "wipe", "undo", "fault", "leaf", "rule", "crack", "deed", "back", "set",
-        "lies", "reading", "day", "broken", "free", "clash", "pour", "strain", "strike", "place", "sides", "read", "forget",
-        "take", "fits", "sinks", "mornings", "sheet", "lose", "lay", "get", "copy", "write", "count", "digest"};
-    /** How far each argument of a call goes: 0 on, below this. */
-    private static final int[][] ENDS = {{2, 256}, {2}, {2}, {2}, {12, 3}, {10, 5}, {6, 6}, {28, 8}, {2}, {2, 4},
-        {4, 12, 2}, {4, 3}, {28}, {2}, {8}, {4}, {256}, {4, 256, 256, 2}, {4, 256, 2}, {4, 8}, {8, 2}, {4, 256}, {},
-        {4}, {3}, {17, 4, 8, 2}, {1 << 30, 100, 8}, {4, 3, 61}, {4}, {4, 3, 60, 400}, {4, 3, 60}, {4, 60, 4, 60, 30}, {4}, {9},
-        {}};
     private static final int TYPE = 0, WIPE = 1, UNDO = 2, READING = 11, STRAIN = 17, STRIKE = 18, READ = 21;
     private static final int FORGET = 22, SHEET = 27, LOSE = 28, LAY = 29, DIGEST = 34;
 
@@ -64,14 +55,14 @@ public final class RandomRunsTest {
     }
 
     private void askAtRandom() {
-        int op = random.nextInt(NAMES.length);
+        int op = random.nextInt(Calls.NAMES.length);
         boolean spoils = op == TYPE || op == WIPE || op == UNDO || op == LOSE || op == FORGET || op == DIGEST;
         if (spoils && random.nextInt(10) != 0) {
             return;
         }
-        int[] a = new int[ENDS[op].length];
+        int[] a = new int[Calls.ENDS[op].length];
         for (int i = 0; i < a.length; i++) {
-            a[i] = argument(ENDS[op][i]);
+            a[i] = argument(Calls.ENDS[op][i]);
         }
         if (op == SHEET && random.nextInt(2) == 0) {
             a[1] = 2;
@@ -154,22 +145,8 @@ public final class RandomRunsTest {
 
     private long ask(int op, int... a) {
         calls++;
-        long got = answer(court, op, a);
-        check.due(NAMES[op] + Arrays.toString(a), got, answer(plain, op, a));
+        long got = Calls.answer(court, op, a);
+        check.due(Calls.told(op, a), got, Calls.answer(plain, op, a));
         return got;
-    }
-
-    private static long answer(Object x, int op, int[] a) {
-        Class<?>[] types = new Class<?>[a.length];
-        Object[] values = new Object[a.length];
-        for (int i = 0; i < a.length; i++) {
-            types[i] = int.class;
-            values[i] = a[i];
-        }
-        try {
-            return ((Number) x.getClass().getDeclaredMethod(NAMES[op], types).invoke(x, values)).longValue();
-        } catch (ReflectiveOperationException e) {
-            throw new IllegalStateException(NAMES[op] + Arrays.toString(a), e);
-        }
     }
 }

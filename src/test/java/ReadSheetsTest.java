@@ -40,13 +40,6 @@ public final class ReadSheetsTest {
         CHECK.due("read again", x.read(3, 0), 1);
     }
 
-    private static void layAll(TeaLaws x, int s, int form, int... items) {
-        x.sheet(s, form, items.length);
-        for (int i = 0; i < items.length; i++) {
-            x.lay(s, form, i, items[i]);
-        }
-    }
-
     private static void take() {
         TeaLaws x = Courts.of("a1s;a2s", "sos+A");
         for (int bad : BAD_FOUR) {
@@ -54,20 +47,20 @@ public final class ReadSheetsTest {
         }
         CHECK.due("take of a LOST one", x.take(2), -11);
         CHECK.due("count(8)", x.count(8), 1);
-        layAll(x, 0, 2, 0, 1, 1, 0, 2, 1, 3);
+        Courts.layAll(x, 0, 2, 0, 1, 1, 0, 2, 1, 3);
         CHECK.due("take: the last one is not whole", x.take(0), 3);
         CHECK.due("count(6)", x.count(6), 3);
         CHECK.due("TURNS and LAWS are in their order", x.fits(2), 0);
         x.forget();
-        layAll(x, 0, 2, 0, 0, 1, 0);
+        Courts.layAll(x, 0, 2, 0, 0, 1, 0);
         CHECK.due("take", x.take(0), 2);
         CHECK.due("without the RULE it comes out so", x.fits(0), 1);
         x.forget();
-        layAll(x, 1, 1, 3, 255, 4, 0, 0, 0);
+        Courts.layAll(x, 1, 1, 3, 255, 4, 0, 0, 0);
         CHECK.due("take stops at TURNS that may not be", x.take(1), 1);
-        layAll(x, 1, 1, 3, 256, 0, 0);
+        Courts.layAll(x, 1, 1, 3, 256, 0, 0);
         CHECK.due("take stops at LAWS that may not be", x.take(1), 0);
-        layAll(x, 1, 0, 3, 127, 3, 255, 0, 0);
+        Courts.layAll(x, 1, 0, 3, 127, 3, 255, 0, 0);
         CHECK.due("255 in a byte is -1", x.take(1), 1);
         CHECK.due("they come behind what was READ", x.count(6), 2);
         x.sheet(3, 0, 60);
@@ -275,9 +268,9 @@ public final class ReadSheetsTest {
 
     private static void copy() {
         TeaLaws x = new TeaLaws();
-        layAll(x, 0, 1, 1, 2, 3, 4, 5);
-        layAll(x, 1, 1, 10, 20, 30);
-        layAll(x, 2, 2, 7, 7, 7);
+        Courts.layAll(x, 0, 1, 1, 2, 3, 4, 5);
+        Courts.layAll(x, 1, 1, 10, 20, 30);
+        Courts.layAll(x, 2, 2, 7, 7, 7);
         CHECK.due("copy(0, 1, 1, 0, 2)", x.copy(0, 1, 1, 0, 2), 1);
         items(x, 1, 1, 2, 3, 30);
         items(x, 0, 1, 1, 2, 3, 4, 5);
@@ -324,14 +317,14 @@ public final class ReadSheetsTest {
         items(x, 0, 2, 128, 0, 2, 0, 128, 0, 2, 0);
         CHECK.due("the last DAY", x.get(0, 2, 26), 2);
         CHECK.due("behind the last DAY", x.get(0, 2, 28), 9);
-        layAll(x, 1, 0, 5, 5, 5);
+        Courts.layAll(x, 1, 0, 5, 5, 5);
         x.set(0, 2);
         x.set(1, 2);
         CHECK.due("write(1)", x.write(1), 3);
         items(x, 1, 0, 2, -128, 2);
         x.sheet(2, 1, 0);
         CHECK.due("write to no items", x.write(2), 0);
-        layAll(x, 2, 1, 5);
+        Courts.layAll(x, 2, 1, 5);
         CHECK.due("write to one item", x.write(2), 1);
         items(x, 2, 1, 2);
     }
@@ -424,8 +417,8 @@ public final class ReadSheetsTest {
 
     private static void findingsChangeOnlyTheirCount() {
         TeaLaws x = Courts.of("a1s;a2d", "sod+H");
-        layAll(x, 0, 1, 3, 4);
-        layAll(x, 1, 2, 5);
+        Courts.layAll(x, 0, 1, 3, 4);
+        Courts.layAll(x, 1, 2, 5);
         x.read(1, 1);
         long before = x.digest();
         x.take(3);
