@@ -240,6 +240,10 @@ public final class BoundaryReadingsTest {
         DOC.due("of like ones as told", like.broken(1), 2);
         like.deed(3, 3);
         DOC.due("a later one of an earlier DAY", like.broken(1), 5);
+        TeaLaws first = Courts.compass();
+        first.deed(0, 0);
+        first.deed(0, 0);
+        DOC.due("the first DEED there is", first.broken(1), 0);
     }
 
     private static void free() {
@@ -397,6 +401,10 @@ public final class BoundaryReadingsTest {
         DOC.due("over it lies a CRACK", over.place(0, 0), TeaLaws.NONE);
         over.back(0);
         DOC.due("over it lies nothing", over.place(0, 0), 0);
+        DOC.due("under the last ROW lies no cell", Courts.of("f6s", "sod+A").place(0, 0), TeaLaws.NONE);
+        DOC.due("over the first ROW lies no cell", Courts.of("a1s", "dos+A").place(0, 0), TeaLaws.NONE);
+        DOC.due("beside the last COLUMN lies no cell", Courts.of("f1s;e1r;e2r;f2r", "dns+A").place(0, 0), TeaLaws.NONE);
+        DOC.due("beside the first COLUMN lies no cell", Courts.of("a6s;b6r;b5r;a5r", "dns+A").place(0, 0), TeaLaws.NONE);
         DOC.by(0, "of one LEAF more by which a told LAW changes (in force, or not)");
         DOC.due("from in force to not", Courts.of("a1s;a1s", "sbs+A;sbd-A").place(0, 0), 36 + 1);
         DOC.due("from not to in force", Courts.of("a1s;a1s", "sbs-A;sbd+A").place(0, 0), 36 + 1);

@@ -159,6 +159,13 @@ public final class BoundarySheetsTest {
         DOC.due("one that does not count tells nothing", leaf.fits(1), 0b111111111111);
         leaf.read(1, 1);
         DOC.due("but it counts, turned", leaf.fits(1), 0b100000000000);
+        TeaLaws three = Courts.of("a1s;b1d;c1r", "sbd+A;dbr+B;sbr+C");
+        int[] left = {0b010, 0b100, 0b001};
+        for (int out = 0; out < 3; out++) {
+            three.forget();
+            three.read(0, left[out]);
+            DOC.due("LEAF " + out + " OUT leaves the other two", three.fits(1), 1 << out);
+        }
         DOC.by(0, "TURNED: RULES each of which, had it alone + for -, or - for +, likewise, as bits.");
         TeaLaws turned = Courts.of("a1s;a1s", "sbs-A;sos-A;sbs-B");
         turned.read(0, 1);

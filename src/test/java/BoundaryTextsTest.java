@@ -193,6 +193,7 @@ public final class BoundaryTextsTest {
             asEmpty(Courts.of("a1s;a2s;f6s", rules), Courts.of("a1s;a2s;f6s", ""));
         }
         TeaLaws x = Courts.of("a1s;a2s", "sbs+A");
+        DOC.due("READING before a FAULT", x.reading(0, 2), 1);
         x.type(0, ';');
         DOC.due("READING with a FAULT", x.reading(0, 2), 0);
         DOC.due("its bytes are still there", x.count(2), 8);
@@ -289,6 +290,14 @@ public final class BoundaryTextsTest {
         DOC.due("of an empty one", x.wipe(1), 0);
         DOC.due("room again", x.type(1, 's'), 1);
         DOC.due("of one with a FAULT", x.wipe(1), 1);
+        TeaLaws y = Courts.of("a1s;a1s", "sns+A;sbs+B;rfr+C");
+        DOC.due("READING before", y.reading(0, 2), 3);
+        y.wipe(1);
+        DOC.due("no RULE is left to tell", y.reading(0, 2), 0);
+        Courts.typeAll(y, 1, "sos+C");
+        DOC.due("nor comes back with another", y.reading(0, 1), 0);
+        y.wipe(0);
+        DOC.due("no LEAF is left to count", y.reading(0, 0), 0);
     }
 
     private static void undo() {
